@@ -1,0 +1,169 @@
+import java.util.Random;
+
+/** What follows from large claims, from texts bred to be hard too, compared with PlainTruths. */
+public final class HardClaimsTest {
+    /** Shelves that were bred to make the search long. */
+    private static final String[][] BRED = {
+        {"((((a)|(((a)|a))|~a>b&c&d)))", "(~(((c)))|~c|~~(c))|~c|(F>d)|b", "(((((~(~F)))))|(~~F|c))|~(F>F)",
+            "(~(~d)>~~d)>~(c&((d>c)))|(d)|d", "(~((F))>~(d))|(~(((b)|b>c)))|b"},
+        {"(((~~F)>F)|a|(a>a))|(~~F>~F)>c", "(((~~a)>c))&(d&(~~(c))>c)>c>c", "((((c>d))|d))|((a|a>(c))>d)|d",
+            "(~~((((c)&(c))))|a|a|a>T&~F)>c", "(~(~~b)|~(b)|~~b|b|b|b>c)&~d>c"},
+        {"~(((~(~(~~~~b>(b))>b))>(b)))>b", "(~((c))>a)|c|~F|((a>a))|c|~(F)", "((((d|((d))>(b))>d))>d)>~~T|~c",
+            "(((((a))|a))|~((F)&~F)|a|a|a)", "((((F))&(~b>(b))>b)|(~T>F)|~b)"},
+        {"(~~(((a)))&~(((b)>F))>(F)|b)>b", "((((d)|d)|~~~~(d)|d)|d>b)&d>d", "(~~~(F)|a|~(~T)>((a))|a>b)&c>b",
+            "((((c|c))|((c)|~c)|c|c>b))&c>c", "(((((~(~b)))))>(b)|~~d|F)&~b>b"},
+        {"(((c>(F>a&d)>c&((F)))>d)>a)>a", "(((((c|c>a)))))&~c&(~~c>a)>d", "((((~~a))))|(~(F))|(~F|(~~a))",
+            "((((d)>~(T)))>((a)))|~~(d)|~~d", "(~((~b))|b|b|b|~(a>b)|b|b|b)|b"},
+        {"((~~(~~(~~(c)))>(F|(~~c)))&c)", "(((((b)|((b))))|T&b))|b|b|b|b", "((c)>(~~((d))|~a))>c|(c|c)|c&d",
+            "(((~~(~F))|(c&~~~b>a)))|~(c>a)", "(((((d|d))|d)|d|d)|d)|(d)|d|d"},
+        {"(~((~((d)>(c)))))>(((b|b)))>c", "((((F>(c))))|~~a)|(c>d)|~~b&T", "(a>~c)|((~c)|((~F>~c)|~c))|~c",
+            "((d)|d|~((d>a|(a|a)>c&F))|d|d)", "~(a|((a|a))>c)|a|(T>a|a)|~~F|a"},
+        {"~~~~~~~~~~~~~~~~~~~~~~~~~~~~~a", "~~~~~~~~~~~~~~~~~~~~~~~~~~~~~b", "~~~~~~~~~~~~~~~~~~~~~~~~~~~~~c",
+            "~~~~~~~~~~~~~~~~~~~~~~~~~~~~~d", "~~~~~~~~~~~~~~~~~~~~~~~~~~~~~T"},
+        {"~~~~~~~~~~~~~~~~~~~~~~~~~~~~a", "~~~~~~~~~~~~~~~~~~~~~~~~~~~~b", "~~~~~~~~~~~~~~~~~~~~~~~a>b>a",
+            "~~~~~~~~~~~~~~~~~~~~~~~b>c", "~~~~~~~~~~~~~~~~~~~~~~~~~~~~~d"}};
+
+    /** What fails in deep or broad models alone. */
+    private static final String[] DEEP = {"a|(a>(b|(b>(c|~c))))", "(a>b|c)|(b>a|c)|(c>a|b)",
+        "((~~a>a)>(a|~a))>(~a|~~a)", "(~a>b|c)>(~a>b)|(~a>c)", "(a>b)|(b>c)|(c>d)|(d>a)",
+        "((a>b)>b)|((b>c)>c)|(a>c)", "a|(a>b|(b>c|(c>d|~d)))", "((a>b)>c)>((b>a)>c)>c",
+        "((a>b)>a|c)>(a|c)|(b>c)", "(~~a>a)|((~~a>a)>(a|~a))", "((~~a>a)>a|~a)>~~a|~a|b"};
+
+    private static Random random;
+    private static int facts;
+    private static int nots;
+    private static int mix;
+    private static int wrong = 0;
+    private static int compared = 0;
+    private static int skipped = 0;
+    private static int deep = 0;
+
+    public static void main(String[] args) {
+        long first = args.length > 0 ? Long.parseLong(args[0]) : 1;
+        int runs = args.length > 1 ? Integer.parseInt(args[1]) : 1500;
+        for (String[] texts : BRED) {
+            compareAll(texts);
+        }
+        for (long seed = first; seed < first + runs; seed++) {
+            random = new Random(seed);
+            facts = 1 + random.nextInt(4);
+            nots = 15 * random.nextInt(4);
+            mix = random.nextInt(4);
+            String[] texts = new String[5];
+            for (int i = 0; i < 5; i++) {
+                int kind = random.nextInt(4);
+                texts[i] = kind == 0 ? changed(BRED[random.nextInt(BRED.length)][random.nextInt(5)])
+                    : kind == 1 ? changed(DEEP[random.nextInt(DEEP.length)]) : freshClaim();
+            }
+            compareSome(texts);
+        }
+        System.out.println(compared + " answers compared, " + deep + " of them of models with more than 3 stages, "
+            + skipped + " skipped, " + wrong + " not as due");
+        if (wrong != 0 || skipped * 20 > compared || deep == 0) {
+            System.exit(1);
+        }
+    }
+
+    private static String freshClaim() {
+        String text = claim(5 + random.nextInt(25), 0);
+        for (int i = 0; i < 100 && text.length() > 30; i++) {
+            text = claim(5 + random.nextInt(20), 0);
+        }
+        return text.length() > 30 ? "a" : text;
+    }
+
+    private static String claim(int size, int where) {
+        if (size <= 1) {
+            int which = random.nextInt(30);
+            return which == 0 ? "T" : which == 1 ? "F" : String.valueOf((char) ('a' + random.nextInt(facts)));
+        }
+        if (size == 2 || random.nextInt(100) < nots) {
+            return "~" + claim(size - 1, 3);
+        }
+        int left = 1 + random.nextInt(size - 2);
+        int right = size - 1 - left;
+        int drawn = random.nextInt(10);
+        int how = drawn < 4 + mix ? 0 : drawn < 8 ? 1 : 2;
+        String text = how == 0 ? claim(left, 1) + ">" + claim(right, 0)
+            : how == 1 ? claim(left, 1) + "|" + claim(right, 2)
+            : claim(left, 2) + "&" + claim(right, 3);
+        return how < where ? "(" + text + ")" : text;
+    }
+
+    /** A bred text with some signs of facts and of ways to join changed. */
+    private static String changed(String text) {
+        StringBuilder made = new StringBuilder(text);
+        for (int i = random.nextInt(5); i > 0; i--) {
+            int at = random.nextInt(made.length());
+            char sign = made.charAt(at);
+            if (sign >= 'a' && sign <= 'd' || sign == 'T' || sign == 'F') {
+                made.setCharAt(at, "abcdabcdF".charAt(random.nextInt(9)));
+            } else if (sign == '&' || sign == '|' || sign == '>') {
+                made.setCharAt(at, "&|>>".charAt(random.nextInt(4)));
+            }
+        }
+        return made.toString();
+    }
+
+    private static void compareAll(String[] texts) {
+        StageTruths real = new StageTruths();
+        PlainTruths plain = new PlainTruths();
+        fill(real, plain, texts);
+        for (int place = 0; place < 5; place++) {
+            for (int premises = 0; premises < 32; premises++) {
+                if ((premises >> place & 1) == 0) {
+                    compare(real, plain, texts, premises, place);
+                }
+            }
+        }
+    }
+
+    private static void compareSome(String[] texts) {
+        StageTruths real = new StageTruths();
+        PlainTruths plain = new PlainTruths();
+        fill(real, plain, texts);
+        for (int i = 0; i < 10; i++) {
+            int place = random.nextInt(5);
+            int premises = random.nextInt(32) & ~(1 << place);
+            compare(real, plain, texts, i < 2 ? 31 & ~(1 << place) : premises, place);
+        }
+    }
+
+    private static void fill(StageTruths real, PlainTruths plain, String[] texts) {
+        for (int i = 0; i < 5; i++) {
+            real.clearText();
+            plain.clearText();
+            for (char c : texts[i].toCharArray()) {
+                real.type(c);
+                plain.type(c);
+            }
+            if (real.put(i) < 0 || plain.put(i) < 0) {
+                wrong++;
+                System.out.println("not put: " + texts[i]);
+            }
+        }
+    }
+
+    private static void compare(StageTruths real, PlainTruths plain, String[] texts, int premises, int place) {
+        int got = real.follows(premises, place);
+        int due = plain.follows(premises, place);
+        compared++;
+        if (due == PlainTruths.TOO_LONG) {
+            skipped++;
+            return;
+        }
+        if (got != due) {
+            wrong++;
+            System.out.println("follows(" + premises + ", " + place + ") of " + String.join(", ", texts)
+                + " answered " + got + ", due is " + due);
+        }
+        deep += due == 0 && real.fewestStages(premises, place) == StageTruths.NONE ? 1 : 0;
+        if (random != null && random.nextInt(8) == 0) {
+            int fewest = plain.fewestPremises(premises, place);
+            if (fewest != PlainTruths.TOO_LONG && fewest != real.fewestPremises(premises, place)) {
+                wrong++;
+                System.out.println("fewestPremises(" + premises + ", " + place + ") of " + String.join(", ", texts));
+            }
+        }
+    }
+}

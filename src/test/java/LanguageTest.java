@@ -1,0 +1,171 @@
+import java.io.IOException;
+import java.lang.management.ManagementFactory;
+import java.lang.reflect.Constructor;
+import java.lang.reflect.Field;
+import java.lang.reflect.Method;
+import java.lang.reflect.Modifier;
+import java.nio.file.Files;
+import java.nio.file.Path;
+import java.util.Arrays;
+import java.util.HashSet;
+import java.util.List;
+import java.util.Set;
+import java.util.regex.Matcher;
+import java.util.regex.Pattern;
+
+/** What of ../shared/LANGUAGE.md can be looked up in the source and the class, and what a long run makes. */
+public final class LanguageTest {
+    private static final String SOURCE = "src/main/java/StageTruths.java";
+    private static final Set<String> FACE = Set.of("addStage", "lead", "learn", "forget", "removeStage", "shrink",
+        "put", "drop", "join", "type", "clearText", "undo", "keep", "restore", "stage", "alike", "claim", "holds",
+        "follows", "followsPlainly", "fewestStages", "fewestPremises", "relation", "count");
+    private static final Set<String> CONSTANTS = Set.of("UNKNOWN", "BAD_VALUE", "FULL", "NOT_POSSIBLE", "NONE");
+
+    private static int wrong = 0;
+
+    public static void main(String[] args) throws IOException {
+        face();
+        classesInside();
+        source();
+        whatIsMade();
+        System.out.println(wrong == 0 ? "the language is kept to" : wrong + " things are not as the language asks");
+        if (wrong != 0) {
+            System.exit(1);
+        }
+    }
+
+    private static void check(boolean fine, String what) {
+        if (!fine) {
+            wrong++;
+            System.out.println(what);
+        }
+    }
+
+    private static void face() {
+        Class<?> type = StageTruths.class;
+        check(Modifier.isPublic(type.getModifiers()) && Modifier.isFinal(type.getModifiers()), "public and final");
+        Set<String> methods = new HashSet<>();
+        for (Method method : type.getDeclaredMethods()) {
+            if (!Modifier.isPrivate(method.getModifiers()) && !method.isSynthetic()) {
+                check(Modifier.isPublic(method.getModifiers()), "visible: " + method);
+                check(method.getReturnType() == int.class, "returns another type: " + method);
+                check(methods.add(method.getName()), "twice: " + method);
+            } else {
+                check(!FACE.contains(method.getName()), "has the name of a public one: " + method);
+            }
+        }
+        check(methods.equals(FACE), "the public methods are " + methods);
+        Set<String> fields = new HashSet<>();
+        for (Field field : type.getDeclaredFields()) {
+            if (!Modifier.isPrivate(field.getModifiers()) && !field.isSynthetic()) {
+                fields.add(field.getName());
+            }
+        }
+        check(fields.equals(CONSTANTS), "the visible fields are " + fields);
+        Constructor<?>[] constructors = type.getDeclaredConstructors();
+        check(constructors.length == 1 && Modifier.isPublic(constructors[0].getModifiers())
+            && constructors[0].getParameterCount() == 0, "one public constructor without parameters");
+    }
+
+    private static void classesInside() {
+        Class<?>[] inside = StageTruths.class.getDeclaredClasses();
+        check(inside.length <= 12, inside.length + " classes inside");
+        Set<Class<?>> all = new HashSet<>(Arrays.asList(inside));
+        all.add(StageTruths.class);
+        for (Class<?> type : all) {
+            int fields = 0;
+            for (Field field : type.getDeclaredFields()) {
+                boolean isStatic = Modifier.isStatic(field.getModifiers());
+                fields += isStatic ? 0 : 1;
+                check(!isStatic || Modifier.isFinal(field.getModifiers()), "static and not final: " + field);
+            }
+            check(fields <= 20, fields + " fields in " + type);
+            for (Method method : type.getDeclaredMethods()) {
+                check(method.getParameterCount() <= 7, "many parameters: " + method);
+                check(type == StageTruths.class || !FACE.contains(method.getName()), "a name of the face: " + method);
+            }
+            if (type != StageTruths.class) {
+                int modifiers = type.getModifiers();
+                check(Modifier.isStatic(modifiers) && !Modifier.isPublic(modifiers)
+                    && !Modifier.isProtected(modifiers), "not static or visible: " + type);
+                check(type.getDeclaredClasses().length == 0, "classes inside " + type);
+            }
+        }
+    }
+
+    private static void source() throws IOException {
+        String text = Files.readString(Path.of(SOURCE));
+        check(text.chars().allMatch(c -> c < 128), "signs above 127");
+        String code = text.replaceAll("(?s)/\\*.*?\\*/", "").replaceAll("//[^\n]*", "")
+            .replaceAll("'(\\\\.|[^'\\\\])'", "0").replaceAll("\"(\\\\.|[^\"\\\\])*\"", "\"\"");
+        for (String word : List.of("throw", "throws", "try", "catch", "finally", "synchronized", "assert", "import",
+            "package", "volatile", "native", "yield", "var", "protected", "instanceof", "String", "Object")) {
+            check(!Pattern.compile("\\b" + word + "\\b").matcher(code).find(), "the word " + word);
+        }
+        for (String sign : List.of("->", "::", "static {", "@", "\"", "equals(", "hashCode", "toString",
+            "/", "%", "\t")) {
+            check(!code.contains(sign), "the sign " + sign);
+        }
+        Matcher library = Pattern.compile("\\b(Math|Integer|Long|System|Arrays|Character|[A-Z]\\w*)\\.(\\w+)").matcher(code);
+        Set<String> listed = Set.of("Math.max", "Math.min", "Integer.bitCount");
+        while (library.find()) {
+            boolean own = Set.of("Parts", "Claim", "Findings").contains(library.group(1));
+            check(own || listed.contains(library.group()), "from the library: " + library.group());
+        }
+        check(!Pattern.compile("while\\s*\\(").matcher(code).find(), "a loop whose bound is not in sight");
+        methodLengths(text);
+    }
+
+    private static void methodLengths(String text) {
+        String[] lines = text.split("\n");
+        int start = -1;
+        String end = "";
+        for (int i = 0; i < lines.length; i++) {
+            Matcher head = Pattern.compile("^(    |        )(\\w[\\w\\[\\] ]*\\(.*\\) \\{)$").matcher(lines[i]);
+            if (start < 0 && head.find() && !head.group(2).matches("(for|if|switch).*")) {
+                start = i;
+                end = head.group(1) + "}";
+            } else if (start >= 0 && lines[i].equals(end)) {
+                check(i - start <= 60, "a long method: " + lines[start].trim());
+                start = -1;
+            }
+        }
+        check(start < 0, "a method without an end");
+    }
+
+    /** A run of 512 dear calls is to make little: what is made is kept in rows of the constructor. */
+    private static void whatIsMade() {
+        com.sun.management.ThreadMXBean threads =
+            (com.sun.management.ThreadMXBean) ManagementFactory.getThreadMXBean();
+        long thread = Thread.currentThread().getId();
+        dearRun();
+        long before = threads.getThreadAllocatedBytes(thread);
+        dearRun();
+        long bytes = threads.getThreadAllocatedBytes(thread) - before;
+        System.out.println("a run of 512 dear calls makes " + bytes + " bytes");
+        check(bytes < 1_000_000, "a run makes " + bytes + " bytes");
+    }
+
+    private static void dearRun() {
+        StageTruths x = new StageTruths();
+        String[] texts = {"(a>b|c)>(a>b)|(a>c)|~~d", "a|(a>(b|(b>(c|~c))))", "(a|d)&(b|c)>~(a&b)>c",
+            "~~(a|b)&(~c|~~c)", "(a>b)|(b>a)|(c>d)|(d>c)"};
+        int calls = 0;
+        for (int i = 0; i < 5; i++) {
+            calls += x.clearText() * 0 + 2;
+            for (char c : texts[i].toCharArray()) {
+                x.type(c);
+                calls++;
+            }
+            x.put(i);
+        }
+        for (int i = 0; calls < 512; calls++, i++) {
+            switch (i % 4) {
+                case 0 -> x.fewestPremises(31 & ~(1 << i % 5), i % 5);
+                case 1 -> x.fewestStages(31 & ~(1 << i % 5), i % 5);
+                case 2 -> x.join(4, 0, i % 3, 0);
+                default -> x.put(i % 5);
+            }
+        }
+    }
+}
