@@ -29,6 +29,14 @@ public final class HardClaimsTest {
         "((a>b)>b)|((b>c)>c)|(a>c)", "a|(a>b|(b>c|(c>d|~d)))", "((a>b)>c)>((b>a)>c)>c",
         "((a>b)>a|c)>(a|c)|(b>c)", "(~~a>a)|((~~a>a)>(a|~a))", "((~~a>a)>a|~a)>~~a|~a|b"};
 
+    /**
+     * With parts of their own, so that with four long chains of "~" before them there are more than 128
+     * parts, the whole of these being the last ones.
+     */
+    private static final String[] LONG = {"a|(a>(b|(b>~~~~~~~~~~~~~~F)))", "(a>b|~~~~~~~~~~~T)&(b>c)>a>c|d",
+        "((a>b)>~~~~~~~~~~~T|a)>(b>a)>a", "(a|b|~~~~~~~~~~~~~T)&(b>a)>a|c", "(a>b)|(b>a)|(~~~~~~~~~~~F>c)",
+        "((a>b)>b)&(a>~~~~~~~~~~~~F)>b", "(a|~~~~~~~~~~~F>b)>(c>b|d)|~a", "((c>~~~~~~~~~~~~F)>a|b)>c|a|b"};
+
     private static Random random;
     private static int facts;
     private static int nots;
@@ -55,6 +63,9 @@ public final class HardClaimsTest {
                 texts[i] = kind == 0 ? changed(BRED[random.nextInt(BRED.length)][random.nextInt(5)])
                     : kind == 1 ? changed(DEEP[random.nextInt(DEEP.length)]) : freshClaim();
             }
+            if (random.nextInt(5) == 0) {
+                chains(texts);
+            }
             compareSome(texts);
         }
         System.out.println(compared + " answers compared, " + deep + " of them of models with more than 3 stages, "
@@ -62,6 +73,20 @@ public final class HardClaimsTest {
         if (wrong != 0 || skipped * 20 > compared || deep == 0) {
             System.exit(1);
         }
+    }
+
+    /** Long chains of "~" before the last text, so that its parts get the greatest numbers. */
+    private static void chains(String[] texts) {
+        boolean longest = random.nextInt(2) == 0;
+        for (int i = 0; i < 4; i++) {
+            char fact = (char) ('a' + i);
+            String end = longest ? "" + fact
+                : new String[] {"" + fact, "(" + fact + ">b)", "(a|" + fact + ")"}[random.nextInt(3)];
+            texts[i] = "~".repeat((30 - end.length()) / 2 * 2) + end;
+        }
+        String[] ends = longest ? LONG : DEEP;
+        String last = ends[random.nextInt(ends.length)];
+        texts[4] = random.nextInt(3) == 0 ? last : changed(last);
     }
 
     private static String freshClaim() {
@@ -123,9 +148,9 @@ public final class HardClaimsTest {
         PlainTruths plain = new PlainTruths();
         fill(real, plain, texts);
         for (int i = 0; i < 10; i++) {
-            int place = random.nextInt(5);
+            int place = i == 0 ? 4 : random.nextInt(5);
             int premises = random.nextInt(32) & ~(1 << place);
-            compare(real, plain, texts, i < 2 ? 31 & ~(1 << place) : premises, place);
+            compare(real, plain, texts, i < 3 ? 31 & ~(1 << place) : premises, place);
         }
     }
 
