@@ -37,9 +37,9 @@ public final class StageTruths {
     private final State snapshot = new State();
     private boolean hasSnapshot = false;
     private final Text text = new Text();
-    private final Parts parts = new Parts();
-    private final SmallModels models = new SmallModels(parts);
-    private final Proof proof = new Proof(parts, models);
+    private final Proof proof = new Proof();
+    private final SmallModels models = proof.models;
+    private final Parts parts = models.parts;
 
     public StageTruths() {
         for (int i = 0; i < MOST_STATES; i++) {
@@ -934,22 +934,21 @@ public final class StageTruths {
     /**
      * The models with three stages or fewer. A row tells for each part at which first stages it holds:
      * bit n is for the first stage at which the facts n are known. What comes behind it is given: one
-     * or two stages, each by a row and a bit of it.
+     * stage or two, as bits of a row.
      */
     private static final class SmallModels {
         private static final int[] KNOWN = {0xAAAA, 0xCCCC, 0xF0F0, 0xFF00};
         private static final int ALL = 0xFFFF;
         private static final int ROOTS = 16;
 
-        private final Parts parts;
+        final Parts parts = new Parts();
         /** A row in which all holds, for stages that nothing comes behind. */
         private final int[] nothing = new int[Parts.MOST];
         private final int[] single = new int[Parts.MOST];
         private final int[] second = new int[Parts.MOST];
         private final int[] third = new int[Parts.MOST];
 
-        SmallModels(Parts parts) {
-            this.parts = parts;
+        SmallModels() {
             for (int i = 0; i < nothing.length; i++) {
                 nothing[i] = ALL;
             }
@@ -957,7 +956,7 @@ public final class StageTruths {
 
         /** To be called when the parts are others. */
         void fillSingle() {
-            fill(single, nothing, 0, nothing, 0);
+            fill(single, nothing, 0, 0);
         }
 
         /** The facts, as bits of a row, with which a part holds at a stage that nothing comes behind. */
@@ -1002,7 +1001,7 @@ public final class StageTruths {
 
         /** Whether a first stage before a second one before the last stage "last" refutes. */
         private boolean refutesInChain(int last, int premises, int place) {
-            fill(second, single, last, single, last);
+            fill(second, single, last, last);
             int useful = below(last) & supporting(second, premises);
             for (int middle = 0; middle < last; middle++) {
                 if (has(useful, middle) && refutesBefore(third, second, middle, middle, premises, place)) {
@@ -1014,21 +1013,22 @@ public final class StageTruths {
 
         /** Whether a first stage before two stages of a row refutes. */
         private boolean refutesBefore(int[] row, int[] behind, int one, int other, int premises, int place) {
-            fill(row, behind, one, behind, other);
+            fill(row, behind, one, other);
             return (refuting(row, premises, place) & below(one & other)) != 0;
         }
 
-        private void fill(int[] row, int[] behind, int one, int[] alsoBehind, int other) {
+        private void fill(int[] row, int[] behind, int one, int other) {
             for (int part = 0; part < parts.size && part < row.length; part++) {
                 int kind = parts.kinds[part];
                 int left = at(row, parts.left[part]);
                 int right = at(row, parts.right[part]);
+                int later = at(behind, part) >> one & at(behind, part) >> other & 1;
                 row[part] = kind < FACTS ? at(KNOWN, kind)
                     : kind == YES ? ALL
                     : kind == NO ? 0
                     : kind == AND ? left & right
                     : kind == OR ? left | right
-                    : (at(behind, part) >> one & at(alsoBehind, part) >> other & 1) != 0 ? ~left & ALL | right
+                    : later != 0 ? ~left & ALL | right
                     : 0;
             }
         }
@@ -1155,16 +1155,14 @@ public final class StageTruths {
         private static final int PROVED = -1;
         private static final int SETTLED = -2;
 
-        private final Parts parts;
-        private final SmallModels models;
+        final SmallModels models = new SmallModels();
+        private final Parts parts = models.parts;
         private final Level[] levels = new Level[LEVELS];
         /** Stages that were found, as what holds at them, and goals that were proved from known parts. */
         private final Findings met = new Findings();
         private final Findings proved = new Findings();
 
-        Proof(Parts parts, SmallModels models) {
-            this.parts = parts;
-            this.models = models;
+        Proof() {
             for (int i = 0; i < LEVELS; i++) {
                 levels[i] = new Level();
             }
