@@ -46,7 +46,14 @@ public final class HardClaimsTest {
     private static int skipped = 0;
     private static int deep = 0;
 
+    /** Long texts of which no two have a part in common; what is made of "c" alone is asked about. */
+    private static final String CHAIN_A = "~".repeat(29) + "a";
+    private static final String CHAIN_B = "~".repeat(29) + "b";
+    private static final String CHAIN_D = "~".repeat(29) + "d";
+
     public static void main(String[] args) {
+        wideSets();
+        findingsOfOneCall();
         long first = args.length > 0 ? Long.parseLong(args[0]) : 1;
         int runs = args.length > 1 ? Integer.parseInt(args[1]) : 1500;
         for (String[] texts : BRED) {
@@ -73,6 +80,43 @@ public final class HardClaimsTest {
         if (wrong != 0 || skipped * 20 > compared || deep == 0) {
             System.exit(1);
         }
+    }
+
+    private static void due(String what, int got, int want) {
+        compared++;
+        if (got != want) {
+            wrong++;
+            System.out.println(what + " answered " + got + ", due is " + want);
+        }
+    }
+
+    private static StageTruths shelf(String... texts) {
+        StageTruths x = new StageTruths();
+        fill(x, new PlainTruths(), texts);
+        return x;
+    }
+
+    /**
+     * From "~c" follows "c|(c>F)", but not from nothing. The stage that shows the latter does not show the former,
+     * which just the part "~c" tells: it is among the first 64 parts, the next ones, and those from 128 on.
+     */
+    private static void wideSets() {
+        due("first parts", shelf("T&~c", CHAIN_A, CHAIN_B, CHAIN_D, "c|(c>F)").fewestPremises(15, 4), 1);
+        due("middle parts", shelf("c|(c>F)", CHAIN_A, CHAIN_B, CHAIN_D, "T&~c").fewestPremises(30, 0), 16);
+        String first = "c|(c>F)|" + "~".repeat(21) + "T";
+        due("last parts", shelf(first, CHAIN_A, CHAIN_B, CHAIN_D, "~".repeat(11) + "F&~c").fewestPremises(30, 0), 16);
+        // What was found for "~~c" tells nothing of "c&T", nor the other way round: that is the part 128.
+        String chain = "~".repeat(29) + "F";
+        String[] last = {"~~~~~~c|(c&T>c)|(~~c>c)", "~~~~~~c|(~~c>c)&(c&T>c)"};
+        due("a stage that was found", shelf(CHAIN_A, CHAIN_B, CHAIN_D, chain, last[0]).follows(15, 4), 1);
+        due("a proof that was found", shelf(CHAIN_A, CHAIN_B, CHAIN_D, chain, last[1]).follows(15, 4), 0);
+    }
+
+    /** The stage that shows that the right side does not follow is met again in the search for the left one. */
+    private static void findingsOfOneCall() {
+        due("behind an \"or\"", shelf("(a>(F>F)&T)|(a>(b|c>~~d>d)|F)").follows(0, 0), 1);
+        due("behind an \"if\"", shelf("(a>(F>F)&T)|(a>(b>~~d>d)|F)").follows(0, 0), 1);
+        due("behind two", shelf("(a>(~b>F>b)&T)|(a>(~~d>d)|~a)").follows(0, 0), 1);
     }
 
     /** Long chains of "~" before the last text, so that its parts get the greatest numbers. */
@@ -155,7 +199,7 @@ public final class HardClaimsTest {
     }
 
     private static void fill(StageTruths real, PlainTruths plain, String[] texts) {
-        for (int i = 0; i < 5; i++) {
+        for (int i = 0; i < texts.length; i++) {
             real.clearText();
             plain.clearText();
             for (char c : texts[i].toCharArray()) {

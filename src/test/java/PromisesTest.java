@@ -1,14 +1,6 @@
 /** Each promise by hand: what is ordinary, the edges that the document names, and what is wrong. */
-public final class PromisesTest {
-    private static final int UNKNOWN = StageTruths.UNKNOWN;
-    private static final int BAD_VALUE = StageTruths.BAD_VALUE;
-    private static final int FULL = StageTruths.FULL;
-    private static final int NOT_POSSIBLE = StageTruths.NOT_POSSIBLE;
-    private static final int NONE = StageTruths.NONE;
+public final class PromisesTest extends Checks {
     private static final int[] WRONG = {-1, Integer.MIN_VALUE, Integer.MAX_VALUE, -33};
-
-    private static int checked = 0;
-    private static int wrong = 0;
 
     public static void main(String[] args) {
         newObject();
@@ -36,54 +28,7 @@ public final class PromisesTest {
         fewestPremises();
         relation();
         count();
-        System.out.println(checked + " answers checked, " + wrong + " not as due");
-        if (wrong != 0) {
-            System.exit(1);
-        }
-    }
-
-    private static void due(String call, int got, int want) {
-        checked++;
-        if (got != want) {
-            wrong++;
-            System.out.println(call + " answered " + got + ", due is " + want);
-        }
-    }
-
-    /** Types a text in place of the one that was. */
-    private static void text(StageTruths x, String text) {
-        x.clearText();
-        for (char c : text.toCharArray()) {
-            x.type(c);
-        }
-    }
-
-    private static int put(StageTruths x, int place, String text) {
-        text(x, text);
-        return x.put(place);
-    }
-
-    private static StageTruths shelf(String... texts) {
-        StageTruths x = new StageTruths();
-        for (int i = 0; i < texts.length; i++) {
-            if (put(x, i, texts[i]) < 0) {
-                due("put of " + texts[i], 0, 1);
-            }
-        }
-        return x;
-    }
-
-    /** 0 leads to 1 and 2, and 1 to 3. */
-    private static StageTruths tree() {
-        StageTruths x = new StageTruths();
-        x.addStage(0);
-        x.addStage(0);
-        x.addStage(1);
-        return x;
-    }
-
-    private static int value(boolean it) {
-        return it ? 1 : 0;
+        finish();
     }
 
     // ---- promise 1
