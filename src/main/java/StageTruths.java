@@ -1022,13 +1022,12 @@ public final class StageTruths {
                 int kind = parts.kinds[part];
                 int left = at(row, parts.left[part]);
                 int right = at(row, parts.right[part]);
-                int later = at(behind, part) >> one & at(behind, part) >> other & 1;
                 row[part] = kind < FACTS ? at(KNOWN, kind)
                     : kind == YES ? ALL
                     : kind == NO ? 0
                     : kind == AND ? left & right
                     : kind == OR ? left | right
-                    : later != 0 ? ~left & ALL | right
+                    : has(at(behind, part), one) && has(at(behind, part), other) ? ~left & ALL | right
                     : 0;
             }
         }
@@ -1055,47 +1054,65 @@ public final class StageTruths {
         }
     }
 
-    /** A set of parts, of up to 192. */
-    private static final class PartSet {
-        private long low = 0;
-        private long middle = 0;
-        private long high = 0;
+    /** A row of sets of parts, each of up to 192. */
+    private static final class PartSets {
+        private static final int WORDS = 3;
 
-        void fill(boolean all) {
-            low = all ? -1L : 0;
-            middle = low;
-            high = low;
+        private final long[] words;
+
+        PartSets(int sets) {
+            words = new long[WORDS * Math.max(0, sets)];
         }
 
-        void takeFrom(PartSet other) {
-            low = other.low;
-            middle = other.middle;
-            high = other.high;
+        boolean has(int set, int part) {
+            int index = WORDS * set + (part >> 6);
+            return index >= 0 && index < words.length && (words[index] >>> (part & 63) & 1L) != 0;
         }
 
-        void keepOnly(PartSet other) {
-            low &= other.low;
-            middle &= other.middle;
-            high &= other.high;
+        void add(int set, int part) {
+            write(set, part >> 6, word(set, part >> 6) | 1L << (part & 63));
         }
 
-        boolean isWithin(PartSet other) {
-            return (low & ~other.low) == 0 && (middle & ~other.middle) == 0 && (high & ~other.high) == 0;
+        void remove(int set, int part) {
+            write(set, part >> 6, word(set, part >> 6) & ~(1L << (part & 63)));
         }
 
-        boolean has(int part) {
-            long word = part < 64 ? low : part < 128 ? middle : high;
-            return (word >>> (part & 63) & 1L) != 0;
+        void fill(int set, boolean all) {
+            for (int i = 0; i < WORDS; i++) {
+                write(set, i, all ? -1L : 0);
+            }
         }
 
-        void set(int part, boolean in) {
-            long bit = 1L << (part & 63);
-            if (part < 64) {
-                low = in ? low | bit : low & ~bit;
-            } else if (part < 128) {
-                middle = in ? middle | bit : middle & ~bit;
-            } else {
-                high = in ? high | bit : high & ~bit;
+        void copy(int set, PartSets others, int other) {
+            for (int i = 0; i < WORDS; i++) {
+                write(set, i, others.word(other, i));
+            }
+        }
+
+        void keepOnly(int set, PartSets others, int other) {
+            for (int i = 0; i < WORDS; i++) {
+                write(set, i, word(set, i) & others.word(other, i));
+            }
+        }
+
+        boolean isWithin(int set, PartSets others, int other) {
+            for (int i = 0; i < WORDS; i++) {
+                if ((word(set, i) & ~others.word(other, i)) != 0) {
+                    return false;
+                }
+            }
+            return true;
+        }
+
+        private long word(int set, int i) {
+            int index = WORDS * set + i;
+            return i >= 0 && i < WORDS && index >= 0 && index < words.length ? words[index] : 0;
+        }
+
+        private void write(int set, int i, long word) {
+            int index = WORDS * set + i;
+            if (i >= 0 && i < WORDS && index >= 0 && index < words.length) {
+                words[index] = word;
             }
         }
     }
@@ -1105,43 +1122,28 @@ public final class StageTruths {
         private static final int MOST = 128;
 
         int size = 0;
-        final PartSet[] sets = new PartSet[MOST];
-        final int[] goals = new int[MOST];
+        final PartSets sets = new PartSets(MOST);
+        private final int[] goals = new int[MOST];
         private int next = 0;
-
-        Findings() {
-            for (int i = 0; i < MOST; i++) {
-                sets[i] = new PartSet();
-            }
-        }
 
         void clear() {
             size = 0;
             next = 0;
         }
 
-        void add(PartSet set, int goal) {
+        int goal(int i) {
+            return at(goals, i);
+        }
+
+        void add(PartSets others, int other, int goal) {
             if (next < 0 || next >= MOST) {
                 next = 0;
             }
-            sets[next].takeFrom(set);
+            sets.copy(next, others, other);
             goals[next] = goal;
             next++;
             size = Math.max(size, next);
         }
-    }
-
-    /** What the search for a proof has before it at one depth. */
-    private static final class Level {
-        /** Parts that hold at the stage that is looked for, and those of them that were there first. */
-        final PartSet known = new PartSet();
-        final PartSet given = new PartSet();
-        /** Parts that must not hold there. */
-        final PartSet doubted = new PartSet();
-        /** What holds at all stages behind it so far; at last what holds at the stage itself. */
-        final PartSet found = new PartSet();
-        /** With which facts the known parts hold at a stage that nothing comes behind. */
-        int singles = 0;
     }
 
     /**
@@ -1157,16 +1159,18 @@ public final class StageTruths {
 
         final SmallModels models = new SmallModels();
         private final Parts parts = models.parts;
-        private final Level[] levels = new Level[LEVELS];
+        /** For each depth the parts that hold at the stage that is looked for, and those that were there first. */
+        private final PartSets known = new PartSets(LEVELS);
+        private final PartSets given = new PartSets(LEVELS);
+        /** Parts that must not hold there. */
+        private final PartSets doubted = new PartSets(LEVELS);
+        /** What holds at all stages behind it so far; at last what holds at the stage itself. */
+        private final PartSets found = new PartSets(LEVELS);
+        /** With which facts the known parts hold at a stage that nothing comes behind. */
+        private final int[] singles = new int[LEVELS];
         /** Stages that were found, as what holds at them, and goals that were proved from known parts. */
         private final Findings met = new Findings();
         private final Findings proved = new Findings();
-
-        Proof() {
-            for (int i = 0; i < LEVELS; i++) {
-                levels[i] = new Level();
-            }
-        }
 
         /** To be called when the parts are others: what was found for the old ones tells nothing then. */
         void startAnew() {
@@ -1175,13 +1179,12 @@ public final class StageTruths {
         }
 
         boolean isFound(int premises, int place) {
-            Level level = levels[0];
-            level.known.fill(false);
-            level.singles = -1;
-            assume(level, YES);
+            known.fill(0, false);
+            singles[0] = -1;
+            assume(0, YES);
             for (int i = 0; i < PLACES; i++) {
                 if (has(premises, i)) {
-                    assume(level, parts.whole(i));
+                    assume(0, parts.whole(i));
                 }
             }
             return proves(this, 0, parts.whole(place));
@@ -1192,87 +1195,97 @@ public final class StageTruths {
             if (depth < 0 || depth + 1 >= LEVELS) {
                 return false;
             }
-            Level level = proof.levels[depth];
-            Level next = proof.levels[depth + 1];
-            int goal = proof.openGoal(level, wanted);
-            if (proof.meetsSingle(level, goal) || proof.hasMet(level, goal)) {
+            int goal = proof.openGoal(depth, wanted);
+            if (proof.meetsSingle(depth, goal) || proof.hasMet(depth, goal)) {
                 return false;
             }
             // Each stage leads to a last one in a finite model: if F holds at no last one, it is proved.
-            if (goal == NO || proof.hasProved(level, goal)) {
+            if (goal == NO || proof.hasProved(depth, goal)) {
                 return true;
             }
-            level.given.takeFrom(level.known);
-            int trial = proof.firstTrial(level, goal);
+            proof.given.copy(depth, proof.known, depth);
+            int trial = proof.firstTrial(depth, goal);
             for (int round = 0; trial >= 0 && round < MOST_ROUNDS; round++) {
                 boolean isOr = at(proof.parts.kinds, trial) == OR;
                 int left = at(proof.parts.left, trial);
                 int right = at(proof.parts.right, trial);
-                next.known.takeFrom(level.known);
-                next.singles = level.singles;
-                proof.assume(next, left);
+                proof.goDeeper(depth, left);
                 if (proves(proof, depth + 1, isOr ? goal : right)) {
-                    proof.assume(level, isOr ? right : trial);
-                    trial = proof.firstTrial(level, goal);
+                    proof.assume(depth, isOr ? right : trial);
+                    trial = proof.firstTrial(depth, goal);
                 } else if (isOr) {
-                    level.found.takeFrom(next.found);
+                    proof.found.copy(depth, proof.found, depth + 1);
                     return false;
                 } else {
-                    level.found.keepOnly(next.found);
-                    level.doubted.set(trial, false);
-                    trial = proof.nextTrial(level);
+                    proof.found.keepOnly(depth, proof.found, depth + 1);
+                    proof.doubted.remove(depth, trial);
+                    trial = proof.nextTrial(depth);
                 }
             }
             if (trial == PROVED) {
-                proof.proved.add(level.given, goal);
+                proof.proved.add(proof.given, depth, goal);
                 return true;
             }
-            proof.meet(level);
+            proof.meet(depth);
             return false;
         }
 
-        private void assume(Level level, int part) {
-            level.known.set(part, true);
-            level.singles &= models.singles(part);
+        /** One part more is known one step deeper. */
+        private void goDeeper(int depth, int part) {
+            known.copy(depth + 1, known, depth);
+            if (depth >= 0 && depth + 1 < LEVELS) {
+                singles[depth + 1] = singles[depth];
+            }
+            assume(depth + 1, part);
+        }
+
+        private void assume(int depth, int part) {
+            known.add(depth, part);
+            if (depth >= 0 && depth < LEVELS) {
+                singles[depth] &= models.singles(part);
+            }
         }
 
         /** "x>y" follows just if y follows with x: so x is known, and y is the goal. */
-        private int openGoal(Level level, int wanted) {
+        private int openGoal(int depth, int wanted) {
             int goal = wanted;
             for (int i = 0; i < parts.size && parts.isIf(goal); i++) {
-                assume(level, at(parts.left, goal));
+                assume(depth, at(parts.left, goal));
                 goal = at(parts.right, goal);
             }
             return goal;
         }
 
         /** Whether a stage that nothing comes behind will do; found is what holds there then. */
-        private boolean meetsSingle(Level level, int goal) {
-            int singles = level.singles & ~models.singles(goal);
-            if (singles == 0) {
+        private boolean meetsSingle(int depth, int goal) {
+            int fitting = at(singles, depth) & ~models.singles(goal);
+            if (fitting == 0) {
                 return false;
             }
-            int lowest = singles & -singles;
+            int lowest = fitting & -fitting;
+            found.fill(depth, false);
             for (int part = 0; part < parts.size; part++) {
-                level.found.set(part, (models.singles(part) & lowest) != 0);
+                if ((models.singles(part) & lowest) != 0) {
+                    found.add(depth, part);
+                }
             }
             return true;
         }
 
         /** Whether a stage that was found before will do; found is what holds there then. */
-        private boolean hasMet(Level level, int goal) {
-            for (int i = 0; i < met.size && i < Findings.MOST; i++) {
-                if (level.known.isWithin(met.sets[i]) && !met.sets[i].has(goal)) {
-                    level.found.takeFrom(met.sets[i]);
+        private boolean hasMet(int depth, int goal) {
+            for (int i = 0; i < met.size; i++) {
+                if (known.isWithin(depth, met.sets, i) && !met.sets.has(i, goal)) {
+                    found.copy(depth, met.sets, i);
                     return true;
                 }
             }
             return false;
         }
 
-        private boolean hasProved(Level level, int goal) {
-            for (int i = 0; i < proved.size && i < Findings.MOST; i++) {
-                if (proved.goals[i] == goal && proved.sets[i].isWithin(level.known)) {
+        private boolean hasProved(int depth, int goal) {
+            for (int i = 0; i < proved.size; i++) {
+                if (proved.goal(i) == goal && proved.sets.isWithin(i, known, depth)) {
                     return true;
                 }
             }
@@ -1280,28 +1293,27 @@ public final class StageTruths {
         }
 
         /** Spreads what is known; then an "or" of which no side is known, or what nextTrial tells. */
-        private int firstTrial(Level level, int goal) {
-            PartSet known = level.known;
-            spread(known);
-            if (known.has(NO) || known.has(goal)) {
+        private int firstTrial(int depth, int goal) {
+            spread(depth);
+            if (known.has(depth, NO) || known.has(depth, goal)) {
                 return PROVED;
             }
             for (int part = Parts.LEAVES; part < parts.size; part++) {
-                if (parts.kinds[part] == OR && known.has(part)
-                    && !known.has(parts.left[part]) && !known.has(parts.right[part])) {
+                if (parts.kinds[part] == OR && known.has(depth, part)
+                    && !known.has(depth, parts.left[part]) && !known.has(depth, parts.right[part])) {
                     return part;
                 }
             }
-            doubt(level, goal);
-            level.found.fill(true);
-            return nextTrial(level);
+            doubt(depth, goal);
+            found.fill(depth, true);
+            return nextTrial(depth);
         }
 
         /** A doubted "if": behind the stage, there is to be one at which its left part holds alone. */
-        private int nextTrial(Level level) {
+        private int nextTrial(int depth) {
             for (int part = parts.size - 1; part >= Parts.LEAVES; part--) {
-                if (level.doubted.has(part) && parts.isIf(part) && !level.known.has(part)
-                    && !level.known.has(parts.left[part])) {
+                if (doubted.has(depth, part) && parts.isIf(part) && !known.has(depth, part)
+                    && !known.has(depth, parts.left[part])) {
                     return part;
                 }
             }
@@ -1309,79 +1321,84 @@ public final class StageTruths {
         }
 
         /** Adds to what is known what its parts make known at once. */
-        private void spread(PartSet known) {
+        private void spread(int depth) {
             boolean grown = true;
             for (int round = 0; grown && round <= Parts.MOST; round++) {
                 grown = false;
                 for (int part = Parts.LEAVES; part < parts.size; part++) {
-                    grown |= grows(known, part);
+                    grown |= grows(depth, part);
                 }
                 for (int part = parts.size - 1; part >= Parts.LEAVES; part--) {
-                    grown |= grows(known, part);
+                    grown |= grows(depth, part);
                 }
             }
         }
 
-        private boolean grows(PartSet known, int part) {
+        private boolean grows(int depth, int part) {
             int kind = at(parts.kinds, part);
             int left = at(parts.left, part);
             int right = at(parts.right, part);
-            boolean one = known.has(left);
-            boolean other = known.has(right);
-            if (!known.has(part)) {
-                boolean made = kind == AND ? one && other : kind == OR ? one || other : other;
-                known.set(part, made);
-                return made;
+            boolean one = known.has(depth, left);
+            boolean other = known.has(depth, right);
+            if (!known.has(depth, part)) {
+                if (kind == AND ? one && other : kind == OR ? one || other : other) {
+                    known.add(depth, part);
+                    return true;
+                }
+                return false;
             }
             if (kind == AND && !(one && other)) {
-                known.set(left, true);
-                known.set(right, true);
+                known.add(depth, left);
+                known.add(depth, right);
                 return true;
             }
             if (parts.isIf(part) && one && !other) {
-                known.set(right, true);
+                known.add(depth, right);
                 return true;
             }
             return false;
         }
 
         /** Finds what must not hold when just the known parts must hold, and the goal must not. */
-        private void doubt(Level level, int goal) {
-            PartSet doubted = level.doubted;
-            doubted.fill(false);
-            doubted.set(goal, true);
+        private void doubt(int depth, int goal) {
+            doubted.fill(depth, false);
+            doubted.add(depth, goal);
             for (int part = parts.size - 1; part >= Parts.LEAVES; part--) {
                 int left = parts.left[part];
                 int right = parts.right[part];
-                if (level.known.has(part)) {
-                    if (parts.isIf(part) && !level.known.has(right)) {
-                        doubted.set(left, true);
+                if (known.has(depth, part)) {
+                    if (parts.isIf(part) && !known.has(depth, right)) {
+                        doubted.add(depth, left);
                     }
-                } else if (doubted.has(part)) {
+                } else if (doubted.has(depth, part)) {
                     if (!parts.isIf(part)) {
-                        doubted.set(left, true);
-                        doubted.set(right, true);
-                    } else if (level.known.has(left)) {
-                        doubted.set(right, true);
+                        doubted.add(depth, left);
+                        doubted.add(depth, right);
+                    } else if (known.has(depth, left)) {
+                        doubted.add(depth, right);
                     }
                 }
             }
         }
 
         /** Makes the stage at which just the known facts are known, before all that were found for it. */
-        private void meet(Level level) {
-            PartSet found = level.found;
+        private void meet(int depth) {
             for (int part = 0; part < parts.size; part++) {
                 // Parts come before what is made of them: these are told for the stage itself by now.
-                boolean one = found.has(parts.left[part]);
-                boolean other = found.has(parts.right[part]);
+                boolean one = found.has(depth, parts.left[part]);
+                boolean other = found.has(depth, parts.right[part]);
                 int kind = parts.kinds[part];
-                found.set(part, kind <= NO ? level.known.has(part)
+                boolean holds = kind <= NO ? known.has(depth, part)
                     : kind == AND ? one && other
                     : kind == OR ? one || other
-                    : found.has(part) && (!one || other));
+                    : found.has(depth, part) && (!one || other);
+                if (!holds) {
+                    found.remove(depth, part);
+                } else {
+                    found.add(depth, part);
+                }
             }
-            met.add(found, 0);
+            met.add(found, depth, NO);
         }
     }
 }

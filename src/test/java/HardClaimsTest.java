@@ -54,6 +54,7 @@ public final class HardClaimsTest {
     public static void main(String[] args) {
         wideSets();
         findingsOfOneCall();
+        stagesMetAgain();
         long first = args.length > 0 ? Long.parseLong(args[0]) : 1;
         int runs = args.length > 1 ? Integer.parseInt(args[1]) : 1500;
         for (String[] texts : BRED) {
@@ -117,6 +118,36 @@ public final class HardClaimsTest {
         due("behind an \"or\"", shelf("(a>(F>F)&T)|(a>(b|c>~~d>d)|F)").follows(0, 0), 1);
         due("behind an \"if\"", shelf("(a>(F>F)&T)|(a>(b>~~d>d)|F)").follows(0, 0), 1);
         due("behind two", shelf("(a>(~b>F>b)&T)|(a>(~~d>d)|~a)").follows(0, 0), 1);
+    }
+
+    /** It matters what holds at a stage that is met again, at once or after another question about the same shelf. */
+    private static void stagesMetAgain() {
+        metAgain(0, 0, 27, 2, "((c>~c)&c>a&b>c)&~~T>b|d", "d|((c>b)>b)|~~c", "b&(b>b)|(~d>~(d&b&F&b>~d))",
+            "a|(~~c>~~b>b)&~(b|d|a)>d", "(b|(a>c)&a>c)|b");
+        metAgain(0, 0, 21, 1, "d|d|(~c>a)|d|(d|~d)", "T&F|(~b&d>~~d)", "(~a>c)>d&b|(a>a)",
+            "b|~~c|(c>a)&(~a>b)", "((c>a)>(~b>a)|(~~b>a))>~~(c&a)");
+        metAgain(0, 0, 30, 0, "~(a>~c)&(d>c|b|(b>d&T))", "(a>(b&T)>b&b)&(b>a)", "((d>a)&~F&~~c|~d>a)|c&(c>c)",
+            "~(((d>c)&b|a&c)>a>~d)", "(d>c)&(b|F>c)>a&d&d");
+        metAgain(0, 0, 27, 2, "(b>b|b)>~~T&(b|c)", "((b>~a)&b>~a)|(~c>c>b|a)", "~~c|((~a>a)>b|a)",
+            "(~d>~d)>(b>d)&(c>d)>d", "c|(c>~d>~c&T)|(~d>c)");
+        metAgain(28, 0, 24, 2, "~c|(F>~c&(a&c))|((a>a)>~~b&T)", "T>((c>a)&~b>F)|(d|c&~c>~F|F)",
+            "(b>b)&((d>(b>a)&b|a)>c|(b>a))", "(~b>b&c)|(c|c>b|a)", "((c|~a>F)>a)|(a>b)>T>a");
+        metAgain(27, 2, 25, 2, "((d&a)>b>a)|(a&b>b)", "a&(a>b)&a>~a>~a", "(~~d>b>b)|((b>a)&(~c>a)>a)",
+            "T&((~~a>a)>c&a|a)", "((~~b>a)&(a&(~a>~b)>b)>a)>d|d");
+        metAgain(21, 1, 20, 1, "(~a>~b)>a>b", "((c>b)>T>c)&(b>c)", "(((~b>a)>c)&((F>b)>c)>~~b)",
+            "((b&a>c)>c)>~~c", "(c&(~~b>d)>a&a|b)>(a>a)>c|c");
+    }
+
+    /** A question about a shelf, and then one to which the answer is 1. */
+    private static void metAgain(int before, int beforePlace, int premises, int place, String... texts) {
+        StageTruths x = shelf(texts);
+        x.follows(before, beforePlace);
+        String question = "follows(" + premises + ", " + place + ") of " + String.join(", ", texts);
+        due(question, x.follows(premises, place), 1);
+        PlainTruths plain = new PlainTruths();
+        fill(new StageTruths(), plain, texts);
+        int plainly = plain.follows(premises, place);
+        due("the plain " + question, plainly == PlainTruths.TOO_LONG ? 1 : plainly, 1);
     }
 
     /** Long chains of "~" before the last text, so that its parts get the greatest numbers. */

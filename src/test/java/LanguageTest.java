@@ -143,7 +143,7 @@ public final class LanguageTest {
         dearRun();
         long bytes = threads.getThreadAllocatedBytes(thread) - before;
         System.out.println("a run of 512 dear calls makes " + bytes + " bytes");
-        check(bytes < 1_000_000, "a run makes " + bytes + " bytes");
+        check(bytes < 200_000, "a run makes " + bytes + " bytes");
     }
 
     private static void dearRun() {

@@ -1,10 +1,26 @@
 import java.util.ArrayList;
 import java.util.List;
 import java.util.Random;
+import java.util.Set;
+import java.util.TreeSet;
 
 /** Random runs of calls, with fixed seeds, each answer compared with the one of PlainTruths. */
 public final class RandomRunsTest {
     private static final int CALLS = 512;
+    private static final int RUNS = 250;
+
+    /** Each call with what it can tell but numbers from 0 on: some run must have told it, and such a number too. */
+    private static final String[] TELLS = {"addStage UNKNOWN FULL", "lead UNKNOWN BAD_VALUE NONE",
+        "learn UNKNOWN NONE", "forget UNKNOWN NONE", "removeStage UNKNOWN NOT_POSSIBLE", "shrink NOT_POSSIBLE NONE",
+        "put UNKNOWN FAULT NONE", "drop UNKNOWN", "join UNKNOWN BAD_VALUE NOT_POSSIBLE", "type FULL", "clearText",
+        "undo NONE", "keep", "restore NONE", "stage UNKNOWN BAD_VALUE", "alike UNKNOWN", "claim UNKNOWN BAD_VALUE NONE",
+        "holds UNKNOWN", "follows BAD_VALUE UNKNOWN", "followsPlainly BAD_VALUE UNKNOWN",
+        "fewestStages BAD_VALUE UNKNOWN NONE", "fewestPremises BAD_VALUE UNKNOWN NOT_POSSIBLE", "relation UNKNOWN",
+        "count BAD_VALUE"};
+    private static final String[] ERRORS = {"UNKNOWN", "BAD_VALUE", "FULL", "NOT_POSSIBLE", "NONE"};
+
+    /** What was told in all runs, as call and kind of answer. */
+    private static final Set<String> TOLD = new TreeSet<>();
 
     private final Random random;
     private final StageTruths real = new StageTruths();
@@ -26,7 +42,7 @@ public final class RandomRunsTest {
 
     public static void main(String[] args) {
         long first = args.length > 0 ? Long.parseLong(args[0]) : 1;
-        int runs = args.length > 1 ? Integer.parseInt(args[1]) : 250;
+        int runs = args.length > 1 ? Integer.parseInt(args[1]) : RUNS;
         int wrong = 0;
         long compared = 0;
         long skipped = 0;
@@ -36,10 +52,35 @@ public final class RandomRunsTest {
             compared += run.calls.size();
             skipped += run.skipped;
         }
+        int missing = runs < RUNS ? 0 : neverTold();
         System.out.println(compared + " calls compared, " + skipped + " skipped, " + wrong + " runs wrong");
-        if (wrong != 0 || skipped * 100 > compared) {
+        if (wrong != 0 || missing != 0 || skipped * 100 > compared) {
             System.exit(1);
         }
+    }
+
+    /** How many of the answers that a call can tell no run has told. */
+    private static int neverTold() {
+        int missing = 0;
+        for (String tells : TELLS) {
+            String[] words = tells.split(" ");
+            for (int i = 0; i < words.length; i++) {
+                String told = words[0] + " " + (i == 0 ? "ANSWER" : words[i]);
+                if (!TOLD.remove(told)) {
+                    missing++;
+                    System.out.println("told in no run: " + told);
+                }
+            }
+        }
+        for (String told : TOLD) {
+            missing++;
+            System.out.println("can not be told: " + told);
+        }
+        return missing;
+    }
+
+    private static String kindOf(int answer) {
+        return answer >= 0 ? "ANSWER" : answer <= -100 ? "FAULT" : ERRORS[-1 - answer];
     }
 
     private boolean isAsDue(long seed) {
@@ -67,8 +108,10 @@ public final class RandomRunsTest {
         }
         if (got != due) {
             calls.add("due was " + due);
+            return false;
         }
-        return got == due;
+        TOLD.add(call.substring(0, call.indexOf('(')) + " " + kindOf(got));
+        return true;
     }
 
     /** Mostly 0 to n - 1, sometimes outside. */
@@ -96,7 +139,8 @@ public final class RandomRunsTest {
             fine = same("type((char) " + (int) c + ")", real.type(c), plain.type(c));
         }
         int place = number(5);
-        return fine && same("put(" + place + ")", real.put(place), plain.put(place));
+        // What an object answers after its last call is free.
+        return fine && (calls.size() == CALLS || same("put(" + place + ")", real.put(place), plain.put(place)));
     }
 
     private char anySign() {
