@@ -1381,7 +1381,10 @@ public final class StageTruths {
             }
         }
 
-        /** Makes the stage at which just the known facts are known, before all that were found for it. */
+        /**
+         * Makes the stage at which just the known facts are known, before all that were found for it: what holds
+         * at the stage is some of what holds at all of these.
+         */
         private void meet(int depth) {
             for (int part = 0; part < parts.size; part++) {
                 // Parts come before what is made of them: these are told for the stage itself by now.
@@ -1391,11 +1394,9 @@ public final class StageTruths {
                 boolean holds = kind <= NO ? known.has(depth, part)
                     : kind == AND ? one && other
                     : kind == OR ? one || other
-                    : found.has(depth, part) && (!one || other);
+                    : !one || other;
                 if (!holds) {
                     found.remove(depth, part);
-                } else {
-                    found.add(depth, part);
                 }
             }
             met.add(found, depth, NO);
