@@ -1070,22 +1070,37 @@ public final class StageTruths {
         }
 
         void add(int set, int part) {
-            write(set, part >> 6, word(set, part >> 6) | 1L << (part & 63));
+            int index = WORDS * set + (part >> 6);
+            if (index >= 0 && index < words.length) {
+                words[index] |= 1L << (part & 63);
+            }
         }
 
         void remove(int set, int part) {
-            write(set, part >> 6, word(set, part >> 6) & ~(1L << (part & 63)));
+            int index = WORDS * set + (part >> 6);
+            if (index >= 0 && index < words.length) {
+                words[index] &= ~(1L << (part & 63));
+            }
         }
 
         void fill(int set, boolean all) {
+            int first = WORDS * set;
             for (int i = 0; i < WORDS; i++) {
-                write(set, i, all ? -1L : 0);
+                if (first + i >= 0 && first + i < words.length) {
+                    words[first + i] = all ? -1L : 0;
+                }
             }
         }
 
         void copy(int set, PartSets others, int other) {
             for (int i = 0; i < WORDS; i++) {
                 write(set, i, others.word(other, i));
+            }
+        }
+
+        void unite(int set, PartSets others, int other) {
+            for (int i = 0; i < WORDS; i++) {
+                write(set, i, word(set, i) | others.word(other, i));
             }
         }
 
@@ -1106,12 +1121,12 @@ public final class StageTruths {
 
         private long word(int set, int i) {
             int index = WORDS * set + i;
-            return i >= 0 && i < WORDS && index >= 0 && index < words.length ? words[index] : 0;
+            return index >= 0 && index < words.length ? words[index] : 0;
         }
 
         private void write(int set, int i, long word) {
             int index = WORDS * set + i;
-            if (i >= 0 && i < WORDS && index >= 0 && index < words.length) {
+            if (index >= 0 && index < words.length) {
                 words[index] = word;
             }
         }
@@ -1147,28 +1162,141 @@ public final class StageTruths {
     }
 
     /**
+     * The parts that are known on the way to where the search is, in the order in which they became known,
+     * each with those from which it is known.
+     */
+    private static final class Known {
+        int size = 0;
+        /** The known parts, as the one set of a row. */
+        final PartSets set = new PartSets(1);
+        private final Parts parts;
+        private final int[] order = new int[Parts.MOST];
+        /** For each known part those from which it is known; what is assumed is known from itself. */
+        private final PartSets reasons = new PartSets(Parts.MOST);
+
+        Known(Parts parts) {
+            this.parts = parts;
+        }
+
+        boolean has(int part) {
+            return set.has(0, part);
+        }
+
+        int part(int i) {
+            return at(order, i);
+        }
+
+        /** Forgets all that became known later than the first parts, of some number. */
+        void cutTo(int length) {
+            for (int i = size - 1; i >= length && i >= 0; i--) {
+                set.remove(0, part(i));
+                size = i;
+            }
+        }
+
+        void assume(int part) {
+            infer(part, part, part);
+        }
+
+        private void infer(int part, int one, int other) {
+            if (!set.has(0, part) && size >= 0 && size < order.length) {
+                reasons.fill(part, false);
+                reasons.add(part, one);
+                reasons.add(part, other);
+                set.add(0, part);
+                order[size] = part;
+                size++;
+            }
+        }
+
+        /** A part is known now from what of a set is known, and from one part more. */
+        void conclude(int part, PartSets others, int other, int more) {
+            if (!has(part)) {
+                infer(part, more, more);
+                reasons.unite(part, others, other);
+                reasons.keepOnly(part, set, 0);
+                reasons.remove(part, part);
+            }
+        }
+
+        /** Puts, for the parts of a set that became known later than the first ones, what they are known from. */
+        void explain(PartSets used, int which, int first) {
+            for (int i = size - 1; i >= first && i >= 0; i--) {
+                int part = part(i);
+                if (used.has(which, part)) {
+                    used.remove(which, part);
+                    used.unite(which, reasons, part);
+                }
+            }
+        }
+
+        /** Adds to what is known what its parts make known at once. */
+        void spread() {
+            boolean grown = true;
+            for (int round = 0; grown && round <= Parts.MOST; round++) {
+                grown = false;
+                for (int part = Parts.LEAVES; part < parts.size; part++) {
+                    grown |= grows(part);
+                }
+                // If no part makes another one known on the way up, none does on the way down.
+                for (int part = parts.size - 1; grown && part >= Parts.LEAVES; part--) {
+                    grows(part);
+                }
+            }
+        }
+
+        private boolean grows(int part) {
+            int kind = at(parts.kinds, part);
+            int left = at(parts.left, part);
+            int right = at(parts.right, part);
+            boolean one = has(left);
+            boolean other = has(right);
+            if (!has(part)) {
+                if (kind == AND ? one && other : kind == OR ? one || other : other) {
+                    infer(part, kind == AND || kind == OR && one ? left : right, kind == OR && one ? left : right);
+                    return true;
+                }
+                return false;
+            }
+            if (kind == AND && !(one && other)) {
+                infer(left, part, part);
+                infer(right, part, part);
+                return true;
+            }
+            if (parts.isIf(part) && one && !other) {
+                infer(right, part, left);
+                return true;
+            }
+            return false;
+        }
+    }
+
+    /**
      * The search for a stage, of any model, at which some parts hold and a goal does not; where there is
      * none, the goal follows. Each step deeper knows more parts than the one before, so the search ends.
      */
     private static final class Proof {
         private static final int LEVELS = Parts.MOST + 2;
         private static final int MOST_ROUNDS = 1000000;
-        /** Instead of a part to try: the goal is known, or there is nothing left to try. */
+        /** Instead of a part to try: the goal is proved, or there is nothing left to try. */
         private static final int PROVED = -1;
         private static final int SETTLED = -2;
 
         final SmallModels models = new SmallModels();
         private final Parts parts = models.parts;
-        /** For each depth the parts that hold at the stage that is looked for, and those that were there first. */
-        private final PartSets known = new PartSets(LEVELS);
-        private final PartSets given = new PartSets(LEVELS);
+        /** The parts that hold at the stage that is looked for. */
+        private final Known known = new Known(parts);
+        /** For each depth how many parts were known before it. */
+        private final int[] starts = new int[LEVELS];
+        /** Of the parts that were known there first, those from which the goal was proved. */
+        private final PartSets used = new PartSets(LEVELS);
         /** Parts that must not hold there. */
         private final PartSets doubted = new PartSets(LEVELS);
         /** What holds at all stages behind it so far; at last what holds at the stage itself. */
         private final PartSets found = new PartSets(LEVELS);
         /** With which facts the known parts hold at a stage that nothing comes behind. */
         private final int[] singles = new int[LEVELS];
-        /** Stages that were found, as what holds at them, and goals that were proved from known parts. */
+        /** Stages that were found, as what holds at them, and goals that were proved, as what was used. */
         private final Findings met = new Findings();
         private final Findings proved = new Findings();
 
@@ -1179,7 +1307,8 @@ public final class StageTruths {
         }
 
         boolean isFound(int premises, int place) {
-            known.fill(0, false);
+            known.cutTo(0);
+            starts[0] = 0;
             singles[0] = -1;
             assume(0, YES);
             for (int i = 0; i < PLACES; i++) {
@@ -1190,7 +1319,7 @@ public final class StageTruths {
             return proves(this, 0, parts.whole(place));
         }
 
-        /** Whether a goal follows from what is known at a depth; if not, found there tells why. */
+        /** Whether a goal follows from what is known at a depth: used there tells from what; if not, found why. */
         private static boolean proves(Proof proof, int depth, int wanted) {
             if (depth < 0 || depth + 1 >= LEVELS) {
                 return false;
@@ -1199,19 +1328,22 @@ public final class StageTruths {
             if (proof.meetsSingle(depth, goal) || proof.hasMet(depth, goal)) {
                 return false;
             }
-            // Each stage leads to a last one in a finite model: if F holds at no last one, it is proved.
-            if (goal == NO || proof.hasProved(depth, goal)) {
+            if (proof.failsAtAllLast(depth, goal) || proof.hasProved(depth, goal)) {
                 return true;
             }
-            proof.given.copy(depth, proof.known, depth);
             int trial = proof.firstTrial(depth, goal);
             for (int round = 0; trial >= 0 && round < MOST_ROUNDS; round++) {
                 boolean isOr = at(proof.parts.kinds, trial) == OR;
                 int left = at(proof.parts.left, trial);
                 int right = at(proof.parts.right, trial);
                 proof.goDeeper(depth, left);
-                if (proves(proof, depth + 1, isOr ? goal : right)) {
-                    proof.assume(depth, isOr ? right : trial);
+                boolean follows = proves(proof, depth + 1, isOr ? goal : right);
+                proof.known.cutTo(proof.starts[depth + 1]);
+                if (follows && isOr && !proof.used.has(depth + 1, left)) {
+                    proof.used.copy(depth, proof.used, depth + 1);
+                    trial = PROVED;
+                } else if (follows) {
+                    proof.conclude(depth, isOr ? right : trial, isOr ? trial : YES);
                     trial = proof.firstTrial(depth, goal);
                 } else if (isOr) {
                     proof.found.copy(depth, proof.found, depth + 1);
@@ -1223,24 +1355,36 @@ public final class StageTruths {
                 }
             }
             if (trial == PROVED) {
-                proof.proved.add(proof.given, depth, goal);
+                proof.known.explain(proof.used, depth, proof.starts[depth]);
+                proof.proved.add(proof.used, depth, goal);
                 return true;
             }
             proof.meet(depth);
             return false;
         }
 
-        /** One part more is known one step deeper. */
+        /** One part more is assumed one step deeper. */
         private void goDeeper(int depth, int part) {
-            known.copy(depth + 1, known, depth);
             if (depth >= 0 && depth + 1 < LEVELS) {
+                starts[depth + 1] = known.size;
                 singles[depth + 1] = singles[depth];
+                assume(depth + 1, part);
             }
-            assume(depth + 1, part);
         }
 
         private void assume(int depth, int part) {
-            known.add(depth, part);
+            known.assume(part);
+            if (depth >= 0 && depth < LEVELS) {
+                singles[depth] &= models.singles(part);
+            }
+        }
+
+        /**
+         * What was proved one step deeper makes a part known. For the right side of an "or" that is so just while
+         * this goal is to be proved: as it follows with the left side, there is the right one left.
+         */
+        private void conclude(int depth, int part, int more) {
+            known.conclude(part, used, depth + 1, more);
             if (depth >= 0 && depth < LEVELS) {
                 singles[depth] &= models.singles(part);
             }
@@ -1275,7 +1419,7 @@ public final class StageTruths {
         /** Whether a stage that was found before will do; found is what holds there then. */
         private boolean hasMet(int depth, int goal) {
             for (int i = 0; i < met.size; i++) {
-                if (known.isWithin(depth, met.sets, i) && !met.sets.has(i, goal)) {
+                if (known.set.isWithin(0, met.sets, i) && !met.sets.has(i, goal)) {
                     found.copy(depth, met.sets, i);
                     return true;
                 }
@@ -1283,9 +1427,44 @@ public final class StageTruths {
             return false;
         }
 
+        /**
+         * Whether the goal is F and can be at no last stage: then it is proved, as each stage leads to a last one
+         * in a finite model. Used are then parts of which so few as these hold together at none.
+         */
+        private boolean failsAtAllLast(int depth, int goal) {
+            if (goal != NO) {
+                return false;
+            }
+            used.fill(depth, false);
+            int left = -1;
+            for (int i = 0; i < known.size && left != 0; i++) {
+                if ((left & ~models.singles(known.part(i))) != 0) {
+                    left &= models.singles(known.part(i));
+                    used.add(depth, known.part(i));
+                }
+            }
+            for (int i = known.size - 1; i >= 0; i--) {
+                if (used.has(depth, known.part(i)) && singlesWithout(depth, known.part(i)) == 0) {
+                    used.remove(depth, known.part(i));
+                }
+            }
+            return true;
+        }
+
+        /** With which facts all used parts but one hold at a stage that nothing comes behind. */
+        private int singlesWithout(int depth, int without) {
+            int left = -1;
+            for (int i = 0; i < known.size; i++) {
+                int part = known.part(i);
+                left &= part != without && used.has(depth, part) ? models.singles(part) : -1;
+            }
+            return left;
+        }
+
         private boolean hasProved(int depth, int goal) {
             for (int i = 0; i < proved.size; i++) {
-                if (proved.goal(i) == goal && proved.sets.isWithin(i, known, depth)) {
+                if (proved.goal(i) == goal && proved.sets.isWithin(i, known.set, 0)) {
+                    used.copy(depth, proved.sets, i);
                     return true;
                 }
             }
@@ -1294,13 +1473,15 @@ public final class StageTruths {
 
         /** Spreads what is known; then an "or" of which no side is known, or what nextTrial tells. */
         private int firstTrial(int depth, int goal) {
-            spread(depth);
-            if (known.has(depth, NO) || known.has(depth, goal)) {
+            known.spread();
+            if (known.has(NO) || known.has(goal)) {
+                used.fill(depth, false);
+                used.add(depth, known.has(NO) ? NO : goal);
                 return PROVED;
             }
             for (int part = Parts.LEAVES; part < parts.size; part++) {
-                if (parts.kinds[part] == OR && known.has(depth, part)
-                    && !known.has(depth, parts.left[part]) && !known.has(depth, parts.right[part])) {
+                if (parts.kinds[part] == OR && known.has(part)
+                    && !known.has(parts.left[part]) && !known.has(parts.right[part])) {
                     return part;
                 }
             }
@@ -1312,51 +1493,12 @@ public final class StageTruths {
         /** A doubted "if": behind the stage, there is to be one at which its left part holds alone. */
         private int nextTrial(int depth) {
             for (int part = parts.size - 1; part >= Parts.LEAVES; part--) {
-                if (doubted.has(depth, part) && parts.isIf(part) && !known.has(depth, part)
-                    && !known.has(depth, parts.left[part])) {
+                if (doubted.has(depth, part) && parts.isIf(part) && !known.has(part)
+                    && !known.has(parts.left[part])) {
                     return part;
                 }
             }
             return SETTLED;
-        }
-
-        /** Adds to what is known what its parts make known at once. */
-        private void spread(int depth) {
-            boolean grown = true;
-            for (int round = 0; grown && round <= Parts.MOST; round++) {
-                grown = false;
-                for (int part = Parts.LEAVES; part < parts.size; part++) {
-                    grown |= grows(depth, part);
-                }
-                for (int part = parts.size - 1; part >= Parts.LEAVES; part--) {
-                    grown |= grows(depth, part);
-                }
-            }
-        }
-
-        private boolean grows(int depth, int part) {
-            int kind = at(parts.kinds, part);
-            int left = at(parts.left, part);
-            int right = at(parts.right, part);
-            boolean one = known.has(depth, left);
-            boolean other = known.has(depth, right);
-            if (!known.has(depth, part)) {
-                if (kind == AND ? one && other : kind == OR ? one || other : other) {
-                    known.add(depth, part);
-                    return true;
-                }
-                return false;
-            }
-            if (kind == AND && !(one && other)) {
-                known.add(depth, left);
-                known.add(depth, right);
-                return true;
-            }
-            if (parts.isIf(part) && one && !other) {
-                known.add(depth, right);
-                return true;
-            }
-            return false;
         }
 
         /** Finds what must not hold when just the known parts must hold, and the goal must not. */
@@ -1366,15 +1508,15 @@ public final class StageTruths {
             for (int part = parts.size - 1; part >= Parts.LEAVES; part--) {
                 int left = parts.left[part];
                 int right = parts.right[part];
-                if (known.has(depth, part)) {
-                    if (parts.isIf(part) && !known.has(depth, right)) {
+                if (known.has(part)) {
+                    if (parts.isIf(part) && !known.has(right)) {
                         doubted.add(depth, left);
                     }
                 } else if (doubted.has(depth, part)) {
                     if (!parts.isIf(part)) {
                         doubted.add(depth, left);
                         doubted.add(depth, right);
-                    } else if (known.has(depth, left)) {
+                    } else if (known.has(left)) {
                         doubted.add(depth, right);
                     }
                 }
@@ -1391,7 +1533,7 @@ public final class StageTruths {
                 boolean one = found.has(depth, parts.left[part]);
                 boolean other = found.has(depth, parts.right[part]);
                 int kind = parts.kinds[part];
-                boolean holds = kind <= NO ? known.has(depth, part)
+                boolean holds = kind <= NO ? known.has(part)
                     : kind == AND ? one && other
                     : kind == OR ? one || other
                     : !one || other;

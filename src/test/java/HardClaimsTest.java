@@ -37,6 +37,22 @@ public final class HardClaimsTest {
         "((a>b)>~~~~~~~~~~~T|a)>(b>a)>a", "(a|b|~~~~~~~~~~~~~T)&(b>a)>a|c", "(a>b)|(b>a)|(~~~~~~~~~~~F>c)",
         "((a>b)>b)&(a>~~~~~~~~~~~~F)>b", "(a|~~~~~~~~~~~F>b)>(c>b|d)|~a", "((c>~~~~~~~~~~~~F)>a|b)>c|a|b"};
 
+    /** Shelves that were bred to tell if anything of a question is left over when the next one is asked. */
+    private static final String[][] ASKED_AGAIN = {
+        {"(~(a>(~c>~c)>~a)>b>a)>~(b>~a)", "~c|b|c&~c", "(~a>a)>a", "~~((b>a)&(~a|(~T|(b&b))))|~a",
+            "a|(a|(d>~a)>(c>b))"},
+        {"b|((b>(T>d)&~~a)|~d)", "~b|((c>d|(a>d))|~a)>d&c", "(~~b|~(b>c)>b)>a&(d&c)",
+            "((~b>b)>(T|d)&d)|(d|a>T&a)", "(((~a>d)>b)>b)|~(T&b)&(d>a)"},
+        {"(a>b|c|(~c|b))>(~b|a)&(~a>a)|T", "~(~c|~c)|(b|a)|(a>a>~a>F)", "a|b|c>((b|~(~a>b))&~(c>~b))",
+            "(~T>b)&(((~b|~a)|a)&(a>c)>a)", "~a|((~F>b)|a|a)>a"},
+        {"(b&a>a)&a|~b", "((b|~d)|a>b|b|~(b&b))|a", "((~b|a>~b)>b)|(c|~b&~b)", "b&a|((a>b)|a)",
+            "b|~(b&~a)|~c|(d|b>b)"},
+        {"(c>c)|a", "(d>b|~a)>(~a>b)&(a|d)", "(~a>~a)&~((~a>a)>b>~a)", "~~b&(c>b)&F>b", "((c&b)>a)>a>b"},
+        {"(~(~T>~b)>a>~b)&(~a>~a)", "(d>b|~a)>(~a>a)&(a|d)", "(~a>c)&~((~b>c)&b>~a)", "~~b&(c>b)&a>b",
+            "((c&b)>a)>T>b"},
+        {"(d>~d)&(~b|~a>d)", "~b|(a&b>b)>(b>c)|a", "((b&d>d)|d>~b>~b)>d>F", "(~c>d)>~d&((c|b|d>b)>~~b)",
+            "((a>b)>b|b&d>a&b)>b"}};
+
     private static Random random;
     private static int facts;
     private static int nots;
@@ -55,6 +71,9 @@ public final class HardClaimsTest {
         wideSets();
         findingsOfOneCall();
         stagesMetAgain();
+        for (String[] texts : ASKED_AGAIN) {
+            askedAgain(texts);
+        }
         long first = args.length > 0 ? Long.parseLong(args[0]) : 1;
         int runs = args.length > 1 ? Integer.parseInt(args[1]) : 1500;
         for (String[] texts : BRED) {
@@ -75,6 +94,9 @@ public final class HardClaimsTest {
                 chains(texts);
             }
             compareSome(texts);
+            if (seed % 10 == 0) {
+                askedAgain(texts);
+            }
         }
         System.out.println(compared + " answers compared, " + deep + " of them of models with more than 3 stages, "
             + skipped + " skipped, " + wrong + " not as due");
@@ -215,6 +237,25 @@ public final class HardClaimsTest {
                     compare(real, plain, texts, premises, place);
                 }
             }
+        }
+    }
+
+    /** What was asked before makes no difference: a new object answers each question in the same way. */
+    private static void askedAgain(String[] texts) {
+        StageTruths x = shelf(texts);
+        for (int place = 0; place < 5; place++) {
+            int others = 31 & ~(1 << place);
+            for (int premises = others; premises >= 0; premises--) {
+                if ((premises & ~others) == 0) {
+                    due("again: follows(" + premises + ", " + place + ") of " + String.join(", ", texts),
+                        x.follows(premises, place), shelf(texts).follows(premises, place));
+                }
+            }
+        }
+        for (int place = 0; place < 5; place++) {
+            int others = 31 & ~(1 << place);
+            due("again: fewestPremises(" + others + ", " + place + ") of " + String.join(", ", texts),
+                x.fewestPremises(others, place), shelf(texts).fewestPremises(others, place));
         }
     }
 

@@ -1,4 +1,6 @@
 import java.io.IOException;
+import java.io.PrintWriter;
+import java.io.StringWriter;
 import java.lang.management.ManagementFactory;
 import java.lang.reflect.Constructor;
 import java.lang.reflect.Field;
@@ -6,12 +8,17 @@ import java.lang.reflect.Method;
 import java.lang.reflect.Modifier;
 import java.nio.file.Files;
 import java.nio.file.Path;
+import java.util.ArrayList;
 import java.util.Arrays;
+import java.util.HashMap;
 import java.util.HashSet;
 import java.util.List;
+import java.util.Map;
 import java.util.Set;
+import java.util.TreeSet;
 import java.util.regex.Matcher;
 import java.util.regex.Pattern;
+import java.util.spi.ToolProvider;
 
 /** What of ../shared/LANGUAGE.md can be looked up in the source and the class, and what a long run makes. */
 public final class LanguageTest {
@@ -27,6 +34,7 @@ public final class LanguageTest {
         face();
         classesInside();
         source();
+        compiled();
         whatIsMade();
         System.out.println(wrong == 0 ? "the language is kept to" : wrong + " things are not as the language asks");
         if (wrong != 0) {
@@ -106,7 +114,7 @@ public final class LanguageTest {
             "/", "%", "\t")) {
             check(!code.contains(sign), "the sign " + sign);
         }
-        Matcher library = Pattern.compile("\\b(Math|Integer|Long|System|Arrays|Character|[A-Z]\\w*)\\.(\\w+)").matcher(code);
+        Matcher library = Pattern.compile("\\b([A-Z]\\w*)\\.(\\w+)").matcher(code);
         Set<String> listed = Set.of("Math.max", "Math.min", "Integer.bitCount");
         while (library.find()) {
             boolean own = Set.of("Parts", "Claim", "Findings").contains(library.group(1));
@@ -114,6 +122,65 @@ public final class LanguageTest {
         }
         check(!Pattern.compile("while\\s*\\(").matcher(code).find(), "a loop whose bound is not in sight");
         methodLengths(text);
+    }
+
+    /** What is seen best in the compiled classes: which method calls which, and what could make the machine throw. */
+    private static void compiled() {
+        Map<String, Set<String>> calls = new HashMap<>();
+        Pattern typeHead = Pattern.compile("^[\\w ]*class ([\\w$]+) \\{$");
+        Pattern methodHead = Pattern.compile("^  (?:\\S.*?)?([\\w$]+)(?:\\(.*\\)| \\{\\});$");
+        Pattern callOf = Pattern.compile(": invoke.*Method (?:([\\w$]+)\\.)?\"?([\\w<>]+)\"?:\\(");
+        Pattern throwing = Pattern.compile("^ *\\d+: (athrow|checkcast|[il]div|[il]rem|invokedynamic|monitor\\w+)");
+        String type = "";
+        String method = "";
+        for (String line : disassembled().split("\n")) {
+            Matcher inType = typeHead.matcher(line);
+            Matcher inMethod = methodHead.matcher(line);
+            Matcher call = callOf.matcher(line);
+            if (inType.find()) {
+                type = inType.group(1);
+            } else if (inMethod.find()) {
+                String name = inMethod.group(1);
+                method = type + "." + (name.equals(type) ? "<init>" : name);
+                calls.put(method, new TreeSet<>());
+            } else if (call.find()) {
+                calls.get(method).add((call.group(1) == null ? type : call.group(1)) + "." + call.group(2));
+            }
+            check(!throwing.matcher(line).find(), "in " + method + ": " + line.trim());
+        }
+        calls.values().forEach(called -> called.retainAll(calls.keySet()));
+        check(calls.size() > 100, "only " + calls.size() + " methods compiled");
+        check(calls.getOrDefault("StageTruths$Proof.proves", Set.of()).remove("StageTruths$Proof.proves"),
+            "no recursion where it should be");
+        for (String first : calls.keySet()) {
+            List<String> deepest = deepest(calls, first, new ArrayList<>());
+            check(deepest.size() <= 8, "calls go deep: " + deepest);
+        }
+    }
+
+    /** The longest way from a method to one that calls no other one. */
+    private static List<String> deepest(Map<String, Set<String>> calls, String method, List<String> above) {
+        List<String> way = new ArrayList<>(above);
+        check(!way.contains(method) && way.size() < 50, "recursion: " + way + " " + method);
+        way.add(method);
+        List<String> deepest = way;
+        for (String called : way.size() < 50 ? calls.get(method) : Set.<String>of()) {
+            List<String> deeper = deepest(calls, called, way);
+            deepest = deeper.size() > deepest.size() ? deeper : deepest;
+        }
+        return deepest;
+    }
+
+    private static String disassembled() {
+        String path = System.getProperty("java.class.path");
+        List<String> words = new ArrayList<>(List.of("-c", "-p", "-cp", path, "StageTruths"));
+        for (Class<?> type : StageTruths.class.getDeclaredClasses()) {
+            words.add(type.getName());
+        }
+        StringWriter told = new StringWriter();
+        PrintWriter out = new PrintWriter(told);
+        ToolProvider.findFirst("javap").orElseThrow().run(out, out, words.toArray(new String[0]));
+        return told.toString();
     }
 
     private static void methodLengths(String text) {

@@ -78,7 +78,8 @@ public final class ReadmeTest {
             Matcher call = SHOWN.matcher(line);
             if (call.matches()) {
                 shown.add(call.group(3));
-                lines.add(call.group(1) + "due(\"" + call.group(2) + "\", " + call.group(2) + ", " + call.group(4) + ");");
+                String asked = call.group(2);
+                lines.add(call.group(1) + "due(\"" + asked + "\", " + asked + ", " + call.group(4) + ");");
             } else if (!line.startsWith("java")) {
                 boolean tells = line.contains("x.") && line.contains("//");
                 check(!tells, "an answer that is not looked at: " + line);
