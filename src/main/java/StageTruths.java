@@ -306,8 +306,14 @@ public final class StageTruths {
             return error;
         }
         lookAt(premises | 1 << place);
-        int stages = models.fewestRefuting(premises, place);
-        return stages == 0 ? NONE : stages;
+        if (!models.entailsPlainly(premises, place)) {
+            return 1;
+        }
+        if (models.refutesWithTwo(premises, place)) {
+            return 2;
+        }
+        // No model refutes what follows: to prove that is less work than to try all with three stages.
+        return !proof.isFound(premises, place) && models.refutesWithThree(premises, place) ? 3 : NONE;
     }
 
     public int fewestPremises(int premises, int place) {
@@ -968,25 +974,30 @@ public final class StageTruths {
             return refuting(single, premises, place) == 0;
         }
 
-        /** With how few stages premises can hold and a claim not, 0 if with no three or fewer. */
-        int fewestRefuting(int premises, int place) {
-            if (!entailsPlainly(premises, place)) {
-                return 1;
-            }
-            // Nothing but facts of the claims makes a difference, and premises hold at later stages, too.
-            int useful = below(parts.usedFacts()) & supporting(single, premises);
+        boolean refutesWithTwo(int premises, int place) {
+            int useful = usefulLast(premises);
             for (int last = 0; last < ROOTS; last++) {
                 if (has(useful, last) && refutesBefore(second, single, last, last, premises, place)) {
-                    return 2;
+                    return true;
                 }
             }
+            return false;
+        }
+
+        boolean refutesWithThree(int premises, int place) {
+            int useful = usefulLast(premises);
             for (int last = 0; last < ROOTS; last++) {
                 if (has(useful, last) && (refutesForked(last, useful, premises, place)
                     || refutesInChain(last, premises, place))) {
-                    return 3;
+                    return true;
                 }
             }
-            return 0;
+            return false;
+        }
+
+        /** Nothing but facts of the claims makes a difference, and premises hold at last stages, too. */
+        private int usefulLast(int premises) {
+            return below(parts.usedFacts()) & supporting(single, premises);
         }
 
         /** Whether a first stage before the last stages "last" and a lower one refutes. */
