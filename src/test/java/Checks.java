@@ -1,5 +1,10 @@
-/** What the tests by hand have in common: the counting of answers, and objects to begin with. */
+import java.util.Set;
+
+/** What the tests have in common: the counting of what is looked at, and objects to begin with. */
 abstract class Checks {
+    static final Set<String> METHODS = Set.of("addStage", "lead", "learn", "forget", "removeStage", "shrink",
+        "put", "drop", "join", "type", "clearText", "undo", "keep", "restore", "stage", "alike", "claim", "holds",
+        "follows", "followsPlainly", "fewestStages", "fewestPremises", "relation", "count");
     static final int UNKNOWN = -1;
     static final int BAD_VALUE = -2;
     static final int FULL = -3;
@@ -8,6 +13,14 @@ abstract class Checks {
 
     private static int checked = 0;
     private static int wrong = 0;
+
+    static void check(boolean fine, String what) {
+        checked++;
+        if (!fine) {
+            wrong++;
+            System.out.println(what);
+        }
+    }
 
     static void due(String call, int got, int want) {
         checked++;
@@ -27,7 +40,7 @@ abstract class Checks {
 
     /** To be called last: the program ends with 1 if any answer was not as due. */
     static void finish() {
-        System.out.println(checked + " answers checked, " + wrong + " not as due");
+        System.out.println(checked + " checked, " + wrong + " not as due");
         if (wrong != 0) {
             System.exit(1);
         }

@@ -21,14 +21,9 @@ import java.util.regex.Pattern;
 import java.util.spi.ToolProvider;
 
 /** What of ../shared/LANGUAGE.md can be looked up in the source and the class, and what a long run makes. */
-public final class LanguageTest {
+public final class LanguageTest extends Checks {
     private static final String SOURCE = "src/main/java/StageTruths.java";
-    private static final Set<String> FACE = Set.of("addStage", "lead", "learn", "forget", "removeStage", "shrink",
-        "put", "drop", "join", "type", "clearText", "undo", "keep", "restore", "stage", "alike", "claim", "holds",
-        "follows", "followsPlainly", "fewestStages", "fewestPremises", "relation", "count");
     private static final Set<String> CONSTANTS = Set.of("UNKNOWN", "BAD_VALUE", "FULL", "NOT_POSSIBLE", "NONE");
-
-    private static int wrong = 0;
 
     public static void main(String[] args) throws IOException {
         face();
@@ -36,17 +31,7 @@ public final class LanguageTest {
         source();
         compiled();
         whatIsMade();
-        System.out.println(wrong == 0 ? "the language is kept to" : wrong + " things are not as the language asks");
-        if (wrong != 0) {
-            System.exit(1);
-        }
-    }
-
-    private static void check(boolean fine, String what) {
-        if (!fine) {
-            wrong++;
-            System.out.println(what);
-        }
+        finish();
     }
 
     private static void face() {
@@ -59,10 +44,10 @@ public final class LanguageTest {
                 check(method.getReturnType() == int.class, "returns another type: " + method);
                 check(methods.add(method.getName()), "twice: " + method);
             } else {
-                check(!FACE.contains(method.getName()), "has the name of a public one: " + method);
+                check(!METHODS.contains(method.getName()), "has the name of a public one: " + method);
             }
         }
-        check(methods.equals(FACE), "the public methods are " + methods);
+        check(methods.equals(METHODS), "the public methods are " + methods);
         Set<String> fields = new HashSet<>();
         for (Field field : type.getDeclaredFields()) {
             if (!Modifier.isPrivate(field.getModifiers()) && !field.isSynthetic()) {
@@ -90,7 +75,7 @@ public final class LanguageTest {
             check(fields <= 20, fields + " fields in " + type);
             for (Method method : type.getDeclaredMethods()) {
                 check(method.getParameterCount() <= 7, "many parameters: " + method);
-                check(type == StageTruths.class || !FACE.contains(method.getName()), "a name of the face: " + method);
+                check(type == StageTruths.class || !METHODS.contains(method.getName()), "a name of the face: " + method);
             }
             if (type != StageTruths.class) {
                 int modifiers = type.getModifiers();

@@ -13,18 +13,14 @@ import java.util.stream.Collectors;
 import java.util.stream.Stream;
 
 /** README.md: its program answers as it says, its commands work, and the tests that it lists are the tests. */
-public final class ReadmeTest {
+public final class ReadmeTest extends Checks {
     private static final Path TESTS = Path.of("src/test/java");
     private static final Pattern SHOWN = Pattern.compile("^( *)(x\\.(\\w+)\\(.*\\)); +// (-?\\d+)\\b.*$");
-    private static final Set<String> METHODS = Set.of("addStage", "lead", "learn", "forget", "removeStage", "shrink",
-        "put", "drop", "join", "type", "clearText", "undo", "keep", "restore", "stage", "alike", "claim", "holds",
-        "follows", "followsPlainly", "fewestStages", "fewestPremises", "relation", "count");
     /** What an answer of the program is looked at with, behind its first line. */
     private static final String DUE = "static void due(String call, int got, int want) {"
         + " System.out.println(call + \" answers \" + got);"
         + " if (got != want) { System.out.println(\"README.md says \" + want); System.exit(1); } }";
 
-    private static int wrong = 0;
     private static Path folder;
 
     public static void main(String[] args) throws IOException, InterruptedException {
@@ -41,17 +37,7 @@ public final class ReadmeTest {
         } finally {
             remove(folder);
         }
-        System.out.println(wrong == 0 ? "README.md holds" : wrong + " things of README.md do not hold");
-        if (wrong != 0) {
-            System.exit(1);
-        }
-    }
-
-    private static void check(boolean fine, String what) {
-        if (!fine) {
-            wrong++;
-            System.out.println(what);
-        }
+        finish();
     }
 
     private static List<String> section(List<String> page, String head) {
