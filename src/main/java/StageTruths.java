@@ -1260,9 +1260,9 @@ public final class StageTruths {
             int kind = at(parts.kinds, part);
             int left = at(parts.left, part);
             int right = at(parts.right, part);
-            boolean one = has(left);
-            boolean other = has(right);
-            if (!has(part)) {
+            boolean one = set.has(0, left);
+            boolean other = set.has(0, right);
+            if (!set.has(0, part)) {
                 if (kind == AND ? one && other : kind == OR ? one || other : other) {
                     infer(part, kind == AND || kind == OR && one ? left : right, kind == OR && one ? left : right);
                     return true;
@@ -1447,16 +1447,18 @@ public final class StageTruths {
                 return false;
             }
             used.fill(depth, false);
-            int left = -1;
-            for (int i = 0; i < known.size && left != 0; i++) {
-                if ((left & ~models.singles(known.part(i))) != 0) {
-                    left &= models.singles(known.part(i));
-                    used.add(depth, known.part(i));
+            int fitting = -1;
+            for (int i = 0; i < known.size && fitting != 0; i++) {
+                int part = known.part(i);
+                if ((fitting & ~models.singles(part)) != 0) {
+                    fitting &= models.singles(part);
+                    used.add(depth, part);
                 }
             }
             for (int i = known.size - 1; i >= 0; i--) {
-                if (used.has(depth, known.part(i)) && singlesWithout(depth, known.part(i)) == 0) {
-                    used.remove(depth, known.part(i));
+                int part = known.part(i);
+                if (used.has(depth, part) && singlesWithout(depth, part) == 0) {
+                    used.remove(depth, part);
                 }
             }
             return true;
@@ -1464,12 +1466,12 @@ public final class StageTruths {
 
         /** With which facts all used parts but one hold at a stage that nothing comes behind. */
         private int singlesWithout(int depth, int without) {
-            int left = -1;
+            int fitting = -1;
             for (int i = 0; i < known.size; i++) {
                 int part = known.part(i);
-                left &= part != without && used.has(depth, part) ? models.singles(part) : -1;
+                fitting &= part != without && used.has(depth, part) ? models.singles(part) : -1;
             }
-            return left;
+            return fitting;
         }
 
         private boolean hasProved(int depth, int goal) {
